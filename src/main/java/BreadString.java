@@ -1,5 +1,3 @@
-import java.util.Arrays;
-
 /**
  * A tower up which baskets of bread go on a string, floor by floor: what becomes of bread and notes, what had better
  * be done, and what may be told by what was seen. The numbered promises of the document say what each call answers.
@@ -14,6 +12,8 @@ public final class BreadString {
     private static final int LETTERS = 8, TOLD_LETTERS = 3, NOTE_PLACES = 12, NO_LETTER = 8;
     private static final int BITES = 10, LOADS = 100;
     private static final int SHEETS = 4, FORMS = 3, SHEET_ITEMS = 60;
+    private static final int LEAST_INT = 1 << 31;
+    private static final long LEAST_LONG = 1L << 63;
     private static final int PLAIN = 0, MICE = 1, LOVERS = 2, CONVENT = 3;
 
     private final Text floorText = new Text(FLOOR_BYTES);
@@ -239,7 +239,8 @@ public final class BreadString {
         }
         int own = tower.load[basket];
         int least = NONE;
-        for (int load = 0; load < LOADS && least == NONE; load++) {
+        // a load never grows, so less than what is to come up need not be tried
+        for (int load = much; load < LOADS && least == NONE; load++) {
             tower.load[basket] = load;
             goAsTold();
             if (trip.bringsUp(basket, much)) {
@@ -321,7 +322,7 @@ public final class BreadString {
 
     public long gust(int c, int basket, int much, int what) {
         if (c < 0 || c > 16 || !isBasket(basket) || !isLoad(much) || (what != 0 && what != 1)) {
-            return Long.MIN_VALUE - BAD;
+            return LEAST_LONG - BAD;
         }
         findChance(c, basket, much);
         return what == 0 ? above : below;
@@ -374,12 +375,12 @@ public final class BreadString {
 
     public int get(int s, int form, int i) {
         if (!isSheet(s) || !isForm(form)) {
-            return Integer.MIN_VALUE;
+            return LEAST_INT;
         }
         int wrong = sheets.wrongWith(s, form, i);
         if (wrong != 0) {
             found(wrong);
-            return Integer.MIN_VALUE;
+            return LEAST_INT;
         }
         return sheets.item(s, i);
     }
@@ -543,7 +544,7 @@ public final class BreadString {
         }
     }
 
-    /** Leaves the floors in fed, their number in fedCount; it tries them in the order in which the first that does is due. */
+    /** Leaves the floors in fed, their number in fedCount; by the order of the tries the first that does is due. */
     private void findFed(int basket) {
         fedCount = staysWhole(basket, NONE, NONE) ? 0 : NONE;
         for (int f = 0; f < tower.floors && fedCount == NONE; f++) {
@@ -891,6 +892,7 @@ public final class BreadString {
         private final int[] last = new int[MOST_FLOORS];
         final int[] often = new int[MOST_FLOORS];
         final int[] eaten = new int[MOST_FLOORS];
+        private int notUp = 0;
         int bites = 0;
         int firstHour = NONE;
         int firstFloor = NONE;
@@ -902,7 +904,7 @@ public final class BreadString {
         /** Goes on until the bites of the hour stop are done, or, with stop HOURS, to the end. */
         void go(long winds, long sundays, int stop) {
             begin();
-            for (int hour = 0; hour < HOURS; hour++) {
+            for (int hour = 0; hour < HOURS && notUp > 0; hour++) {
                 windy = (winds >> hour & 1) == 1;
                 holy = (sundays >> hour & 1) == 1;
                 arrive(hour);
@@ -925,9 +927,12 @@ public final class BreadString {
                 end[b] = tower.letters[b];
                 System.arraycopy(tower.told, b * TOLD_LETTERS, notes, b * NOTE_ROOM, TOLD_LETTERS);
             }
-            Arrays.fill(last, NONE);
-            Arrays.fill(often, 0);
-            Arrays.fill(eaten, 0);
+            notUp = tower.baskets;
+            for (int f = 0; f < tower.floors; f++) {
+                last[f] = NONE;
+                often[f] = 0;
+                eaten[f] = 0;
+            }
             bites = 0;
             firstHour = NONE;
             firstFloor = NONE;
@@ -937,7 +942,7 @@ public final class BreadString {
             for (int b = 0; b < tower.baskets; b++) {
                 if (tower.hour[b] == hour) {
                     floor[b] = 0;
-                    up[b] = tower.floors == 0 ? hour : NONE;
+                    comeUpAtTop(b, hour);
                 }
             }
         }
@@ -1008,8 +1013,13 @@ public final class BreadString {
             if (tower.wear > 0 && floor[b] % tower.wear == 0 && letters(b) >= 2) {
                 start[b]++;
             }
+            comeUpAtTop(b, hour + 1);
+        }
+
+        private void comeUpAtTop(int b, int hour) {
             if (floor[b] == tower.floors) {
-                up[b] = hour + 1;
+                up[b] = hour;
+                notUp--;
             }
         }
 
@@ -1134,7 +1144,9 @@ public final class BreadString {
         final int[] items = new int[SHEETS * SHEET_ITEMS];
 
         Sheets() {
-            Arrays.fill(size, NONE);
+            for (int s = 0; s < SHEETS; s++) {
+                size[s] = NONE;
+            }
         }
 
         boolean isLost(int s) {
@@ -1144,7 +1156,9 @@ public final class BreadString {
         void make(int s, int newForm, int n) {
             form[s] = newForm;
             size[s] = n;
-            Arrays.fill(items, s * SHEET_ITEMS, s * SHEET_ITEMS + n, 0);
+            for (int i = 0; i < n; i++) {
+                items[s * SHEET_ITEMS + i] = 0;
+            }
         }
 
         /** The finding that stands in the way of item i of a form, 0 if none does. */
