@@ -942,7 +942,10 @@ public final class BreadString {
             for (int b = 0; b < tower.baskets; b++) {
                 if (tower.hour[b] == hour) {
                     floor[b] = 0;
-                    comeUpAtTop(b, hour);
+                    if (tower.floors == 0) {
+                        up[b] = hour;
+                        notUp--;
+                    }
                 }
             }
         }
@@ -974,7 +977,7 @@ public final class BreadString {
         }
 
         private void bite(int b, int f, int hour) {
-            int part = Math.min(tower.bite[f], load[b]);
+            int part = tower.bite[f] < load[b] ? tower.bite[f] : load[b];
             load[b] -= part;
             last[f] = hour;
             often[f]++;
@@ -1010,15 +1013,11 @@ public final class BreadString {
             held[b] = 0;
             floor[b]++;
             // its floor's number is also how many floors it has left
-            if (tower.wear > 0 && floor[b] % tower.wear == 0 && letters(b) >= 2) {
+            if (tower.wear > 0 && floor[b] % tower.wear == 0 && end[b] - start[b] >= 2) {
                 start[b]++;
             }
-            comeUpAtTop(b, hour + 1);
-        }
-
-        private void comeUpAtTop(int b, int hour) {
             if (floor[b] == tower.floors) {
-                up[b] = hour;
+                up[b] = hour + 1;
                 notUp--;
             }
         }
