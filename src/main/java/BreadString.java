@@ -215,10 +215,7 @@ public final class BreadString {
         goAsTold();
         best.clear();
         for (int f = 0; f < tower.floors; f++) {
-            // a floor that never bit is not greedy, even if no other bit more
-            if (trip.eaten[f] > 0) {
-                best.offer(f, trip.eaten[f]);
-            }
+            best.offer(f, trip.eaten[f]);
         }
         return best.which;
     }

@@ -247,7 +247,20 @@ public final class HourPromisesTest {
         C.due("19 of like ones", Checks.tower("p3a;p4b;m4c", "0020h").greedy(), 1);
         C.due("19 in all, not each", Checks.tower("p3a;p5b", "0003h;0403h;0809h").greedy(), 0);
         C.due("19 a bite of 1", Checks.tower("p0a;p1b", "0010h").greedy(), 1);
-        C.due("19 none bit", Checks.tower("p0a;p0b", "0010h").greedy(), NONE);
-        C.due("19 no baskets", Checks.tower("p3a", "").greedy(), NONE);
+        C.due("19 none bit", Checks.tower("p0a;p0b", "0010h").greedy(), 0);
+        C.due("19 no baskets", Checks.tower("p3a", "").greedy(), 0);
+        C.due("19 no bread", Checks.tower("m2a;l3b", "0000h").greedy(), 0);
+        C.due("19 no floors, but a basket", Checks.tower("", "0010h").greedy(), NONE);
+        C.due("19 floors with a fault", Checks.tower("p3a;", "0010h").greedy(), NONE);
+        BreadString rest = Checks.tower("p3a;p4b", "0010h");
+        rest.sunday(0);
+        rest.sunday(1);
+        C.due("19 Sundays alone", rest.greedy(), 0);
+        rest.back(1);
+        C.due("19 one Sunday less", rest.greedy(), 1);
+        rest.wipe(1);
+        C.due("19 baskets wiped", rest.greedy(), 0);
+        rest.wipe(0);
+        C.due("19 floors wiped", rest.greedy(), NONE);
     }
 }

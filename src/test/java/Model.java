@@ -346,8 +346,8 @@ final class Model {
 
     long greedy() {
         Book book = told();
-        int most = book.bites.isEmpty() ? NONE : 0;
-        for (int f = 0; f < floors().size() && most != NONE; f++) {
+        int most = floors().isEmpty() ? NONE : 0;
+        for (int f = 1; f < floors().size(); f++) {
             if (much(book, f) > much(book, most)) {
                 most = f;
             }

@@ -198,6 +198,7 @@ public final class SheetPromisesTest {
     private static void promise38() {
         dueDigest("new", new BreadString());
         dueDigest("no baskets", Checks.tower("p3a;c2b", ""));
+        C.due("38 a floor that never bit", Checks.tower("l1d", "").digest(), 8877816136269400472L);
         dueDigest("no floors", Checks.tower("", "0010h;2905abc"));
         BreadString x = Checks.tower("p3a;l2b;m4c;c1d;l5e", "0045abc;0130d;0120ef;2999g");
         x.wind(4);
