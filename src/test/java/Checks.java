@@ -2,12 +2,18 @@
 final class Checks {
     private int asked = 0;
     private int wrong = 0;
+    private String about = "";
+
+    /** The promise, and the document's sentence, that the answers from here on are due by. */
+    void about(int promise, String sentence) {
+        about = "promise " + promise + " (" + sentence + "): ";
+    }
 
     void due(String call, long got, long want) {
         asked++;
         if (got != want) {
             wrong++;
-            System.out.println(call + " answered " + got + ", due is " + want);
+            System.out.println(about + call + " answered " + got + ", due is " + want);
         }
     }
 
@@ -31,6 +37,29 @@ final class Checks {
         return x;
     }
 
+    /** A tower with winds in these hours. */
+    static BreadString windy(String floors, String baskets, int... hours) {
+        BreadString x = tower(floors, baskets);
+        for (int hour : hours) {
+            x.wind(hour);
+        }
+        return x;
+    }
+
+    /** A tower with Sundays in these hours. */
+    static BreadString holy(String floors, String baskets, int... hours) {
+        BreadString x = tower(floors, baskets);
+        for (int hour : hours) {
+            x.sunday(hour);
+        }
+        return x;
+    }
+
+    /** A part so many times, with ; between. */
+    static String many(int times, String part) {
+        return String.join(";", java.util.Collections.nCopies(times, part));
+    }
+
     /** The letters of a note at last, as a to h. */
     static String note(BreadString x, int basket) {
         StringBuilder letters = new StringBuilder();
@@ -47,7 +76,8 @@ final class Checks {
         asked++;
         if (!note(x, basket).equals(want)) {
             wrong++;
-            System.out.println(call + ": the note of basket " + basket + " is " + note(x, basket) + ", due is " + want);
+            System.out.println(
+                about + call + ": the note of basket " + basket + " is " + note(x, basket) + ", due is " + want);
         }
     }
 }

@@ -687,4 +687,31 @@ final class Model {
             sundays.size(), told().bites.size(), seen.size(), finding};
         return what < 0 || what >= counts.length ? BAD : counts[what];
     }
+
+    long digest() {
+        List<Long> each = new ArrayList<>();
+        for (int what = 0; what <= 7; what++) {
+            each.add(count(what));
+        }
+        each.addAll(List.of(fault(0), fault(1)));
+        for (int f = 0; f < floors().size(); f++) {
+            each.addAll(List.of(floor(f, 0), floor(f, 1), floor(f, 2), bites(f, 0), bites(f, 1)));
+            each.addAll(List.of(was(f, 0), was(f, 1), ask(f)));
+        }
+        for (int b = 0; b < baskets().size(); b++) {
+            each.addAll(List.of(basket(b, 0), basket(b, 1), basket(b, 2), basket(b, 3), basket(b, 4), basket(b, 5)));
+            for (int hour : new int[] {0, 5, 12, 39}) {
+                each.addAll(List.of(at(hour, b, 0), at(hour, b, 1), at(hour, b, 2), at(hour, b, 3)));
+            }
+            each.addAll(List.of(comes(b), note(b, 0), note(b, 1), note(b, 2), note(b, 3), send(b, 0), send(b, 1)));
+            each.addAll(List.of(loaf(b, 5), feed(b, NONE), feed(b, 0), gust(5, b, 3, 0), gust(5, b, 3, 1)));
+        }
+        each.addAll(List.of(famine(), first(0), first(1), greedy(), still(0), still(1), never()));
+        each.addAll(List.of(week(7, 5, 0), week(7, 5, 1)));
+        BigInteger h = BigInteger.valueOf(17);
+        for (long v : each) {
+            h = h.multiply(BigInteger.valueOf(31)).add(BigInteger.valueOf(v));
+        }
+        return h.longValue();
+    }
 }

@@ -3,13 +3,15 @@ import java.util.Random;
 /** Runs of calls by lot, BreadString beside the Model: each answer of the one is due from the other. */
 public final class ModelTest {
     private static final Checks C = new Checks();
-    private static final int RUNS = 260;
-    private static final int CALLS = 300;
+    private static final int RUNS = 600;
+    /** No call of a run, with all that it types, takes more than the 70 or so that are left of the document's 512. */
+    private static final int CALLS = 440;
 
     private final Random lots;
     private final BreadString x = new BreadString();
     private final Model m = new Model();
     private final String run;
+    private int calls = 0;
 
     private ModelTest(int seed) {
         lots = new Random(seed);
@@ -20,9 +22,10 @@ public final class ModelTest {
         for (int seed = 0; seed < RUNS; seed++) {
             ModelTest test = new ModelTest(seed);
             test.begin();
-            for (int k = 0; k < CALLS; k++) {
+            while (test.calls < CALLS) {
                 test.callOne();
             }
+            test.due("digest()", test.x.digest(), test.m.digest());
         }
         C.end();
     }
@@ -38,6 +41,7 @@ public final class ModelTest {
     }
 
     private void due(String call, long got, long want) {
+        calls++;
         C.due(run + call, got, want);
     }
 
@@ -103,10 +107,12 @@ public final class ModelTest {
     }
 
     private int someBasket() {
+        calls++;
         return near(0, Math.max(0, x.count(1) - 1));
     }
 
     private int someFloor() {
+        calls++;
         return near(0, Math.max(0, x.count(0) - 1));
     }
 
@@ -206,8 +212,9 @@ public final class ModelTest {
         switch (lots.nextInt(10)) {
             case 0, 1 -> {
                 int i = near(0, lots.nextBoolean() ? 11 : 3);
-                int true0 = x.note(b, i);
-                int letter = lots.nextInt(4) == 0 || true0 == BreadString.BAD ? near(0, 8) : true0 < 0 ? 8 : true0;
+                calls++;
+                int own = x.note(b, i);
+                int letter = lots.nextInt(4) == 0 || own == BreadString.BAD ? near(0, 8) : own < 0 ? 8 : own;
                 due("seen(" + b + ", " + i + ", " + letter + ")", x.seen(b, i, letter), m.seen(b, i, letter));
             }
             case 2 -> due("forget()", x.forget(), m.forget());
