@@ -247,7 +247,7 @@ public final class HourEdgesTest {
     }
 
     private static void wear() {
-        C.about(14, "With each so-many-th FLOOR that it leaves, as WEAR tells, the first letter of the NOTE is worn off");
+        C.about(14, "With each so-many-th FLOOR that it leaves, as WEAR tells, the first letter is worn off");
         for (int wear = 1; wear <= 9; wear++) {
             for (int floors = 1; floors <= 9; floors++) {
                 BreadString x = Checks.tower(Checks.many(floors, "p0a"), "0010abc");

@@ -190,8 +190,8 @@ public final class RefusalsTest {
         C.about(8, "HUNGER (0 to 9), WEAR (1 to 9). BAD; it changes nothing");
         BreadString x = rich();
         BreadString like = rich();
-        int[][] wrong = {{-1, 5}, {2, 5}, {LEAST, 5}, {MOST, 5}, {0, -1}, {0, 10}, {0, LEAST}, {0, MOST}, {1, 0}, {1, 10},
-            {1, -1}, {1, LEAST}, {1, MOST}, {-1, -1}, {2, 10}};
+        int[][] wrong = {{-1, 5}, {2, 5}, {LEAST, 5}, {MOST, 5}, {0, -1}, {0, 10}, {0, LEAST}, {0, MOST}, {1, 0},
+            {1, 10}, {1, -1}, {1, LEAST}, {1, MOST}, {-1, -1}, {2, 10}};
         for (int[] v : wrong) {
             C.due("set(" + v[0] + ", " + v[1] + ")", x.set(v[0], v[1]), BAD);
         }

@@ -173,9 +173,18 @@ public final class SeenEdgesTest {
         C.about(28, "the BASKET of which the greatest number of those bites by which as much LOAD is left is least");
         // of a load below 9 all bites of that or more leave nothing
         C.due("9 tells all apart", Checks.tower("p1a", "0003h;0409g;0805f").ask(0), 1);
+        int[][] loads = {{7, 8, 2}, {7, 2, 8}, {8, 7, 2}, {2, 7, 8}, {8, 2, 7}, {2, 8, 7}};
+        for (int[] l : loads) {
+            String text = "000" + l[0] + "h;040" + l[1] + "g;080" + l[2] + "f";
+            int most = l[0] > l[1] && l[0] > l[2] ? 0 : l[1] > l[2] ? 1 : 2;
+            C.due("the greatest load tells most, " + text, Checks.tower("p1a", text).ask(0), most);
+        }
         C.due("5 tells more than 3 and 4", Checks.tower("p1a", "0003h;0405g;0804f").ask(0), 1);
         C.due("the last of eight",
             Checks.tower("p1a", "0001h;0401g;0801f;1201e;1601d;2001c;2401b;2802a").ask(0), 7);
+        // an eighth of each is left: 2 by bites 0 to 2 or 0 to 4, 1 by the others
+        BreadString eighths = Checks.windy("p1a;c0b;c0b;c0b", "0018h;0420g", 1, 2, 3, 5, 6, 7);
+        C.due("seven and five", eighths.ask(0), 1);
         C.about(28, "of like ones the least");
         C.due("two alike", Checks.tower("p1a", "0005h;0405g").ask(0), 0);
         C.due("two that are best", Checks.tower("p1a", "0003h;0405g;0805f").ask(0), 1);

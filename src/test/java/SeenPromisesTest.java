@@ -180,7 +180,7 @@ public final class SeenPromisesTest {
         C.due("30 Sundays stay", x.count(5), 2);
         C.due("30 and count again", x.famine(), 0);
         for (int seed = -40; seed < 40; seed++) {
-            dueWeek(x, seed * 98765431);
+            dueWeek(Checks.tower("p3a", "2610h;0010h"), seed * 98765431);
         }
     }
 

@@ -25,6 +25,7 @@ public final class SheetEdgesTest {
         latestFinding();
         digestOfNothing();
         digestParts();
+        lastCall();
         C.end();
     }
 
@@ -128,7 +129,8 @@ public final class SheetEdgesTest {
 
     private static void lowestBits() {
         C.about(33, "Item i, treated as of a FORM, becomes v (the lowest bits that it has): 1");
-        int[] values = {0, 1, -1, 127, 128, 255, 256, -128, -129, 32767, 32768, 65535, 65536, -32768, -32769, MOST, LEAST};
+        int[] values = {0, 1, -1, 127, 128, 255, 256, -128, -129, 32767, 32768, 65535, 65536, -32768, -32769, MOST,
+            LEAST};
         for (int v : values) {
             for (int form = 0; form <= 2; form++) {
                 BreadString x = row(1, form, 3);
@@ -270,7 +272,8 @@ public final class SheetEdgesTest {
         C.about(35, "INDEX: below 0, not so many");
         int[][] wrong = {{-1, 0, 1}, {0, -1, 1}, {0, 0, -1}, {-1, 0, 0}, {0, -1, 0}, {3, 0, 1}, {0, 2, 1}, {4, 0, 0},
             {0, 3, 0}, {0, 0, 3}, {2, 0, 2}, {0, 1, 2}, {1, 1, MOST}, {MOST, 0, 1}, {0, MOST, 1}, {MOST, MOST, MOST},
-            {LEAST, 0, 1}, {0, LEAST, 1}, {0, 0, LEAST}, {LEAST, LEAST, LEAST}, {3, 2, -1}, {MOST, 0, -1}, {1, 0, MOST}};
+            {LEAST, 0, 1}, {0, LEAST, 1}, {0, 0, LEAST}, {LEAST, LEAST, LEAST}, {3, 2, -1}, {MOST, 0, -1},
+            {1, 0, MOST}};
         BreadString x = row(0, 1, 3);
         x.sheet(2, 1, 2);
         for (int[] w : wrong) {
@@ -418,5 +421,16 @@ public final class SheetEdgesTest {
         }
         C.due("one floor, one basket", x.digest(), h);
         C.due("once more", x.digest(), h);
+    }
+
+    private static void lastCall() {
+        C.about(38, "An object is used for at most 512 calls after it has been made");
+        BreadString x = Checks.tower("c2b", "0009ab");
+        int calls = 9;
+        while (calls < 511) {
+            C.due("call " + (calls + 1), x.digest(), x.digest());
+            calls += 2;
+        }
+        C.due("call 512", x.digest(), Checks.tower("c2b", "0009ab").digest());
     }
 }

@@ -200,24 +200,35 @@ public final class SheetPromisesTest {
         dueDigest("no baskets", Checks.tower("p3a;c2b", ""));
         C.due("38 a floor that never bit", Checks.tower("l1d", "").digest(), 8877816136269400472L);
         dueDigest("no floors", Checks.tower("", "0010h;2905abc"));
+        dueDigest("some", some());
+        dueDigest("seen", someSeen());
+        BreadString again = someSeen();
+        C.due("38 calls change nothing", again.digest(), again.digest());
+        BreadString fault = someSeen();
+        fault.type(1, ';');
+        dueDigest("fault", fault);
+        Random lots = new Random(38);
+        for (int k = 0; k < 40; k++) {
+            dueDigest("by lot " + k, byLot(lots));
+        }
+    }
+
+    private static BreadString some() {
         BreadString x = Checks.tower("p3a;l2b;m4c;c1d;l5e", "0045abc;0130d;0120ef;2999g");
         x.wind(4);
         x.wind(5);
         x.wind(12);
         x.sunday(3);
-        dueDigest("some", x);
+        return x;
+    }
+
+    private static BreadString someSeen() {
+        BreadString x = some();
         x.seen(0, 1, 2);
         x.seen(2, 3, 8);
         x.set(0, 1);
         x.set(1, 2);
-        dueDigest("seen", x);
-        C.due("38 calls change nothing", x.digest(), x.digest());
-        x.type(1, ';');
-        dueDigest("fault", x);
-        Random lots = new Random(38);
-        for (int k = 0; k < 40; k++) {
-            dueDigest("by lot " + k, byLot(lots));
-        }
+        return x;
     }
 
     /** Two towers of each three are long and have baskets in all hours, so that each number in the digest counts. */

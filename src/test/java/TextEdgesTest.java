@@ -323,7 +323,7 @@ public final class TextEdgesTest {
 
     private static void marks() {
         for (int what = 0; what <= 1; what++) {
-            C.about(9 + what, what == 0 ? "WINDS, 6 at most: HOURS. BAD; FULL" : "SUNDAYS, 6 at most: HOURS. BAD; FULL");
+            C.about(9 + what, (what == 0 ? "WINDS" : "SUNDAYS") + ", 6 at most: HOURS. BAD; FULL");
             BreadString x = new BreadString();
             for (int wrong : new int[] {-1, 40, LEAST, MOST}) {
                 C.due("hour " + wrong, mark(x, what, wrong), BAD);
